@@ -424,7 +424,8 @@ public final class FrameRents {
         prices.setFact(Prices.NARROWINGS, none ? 0 : entries.at(e, Entries.NARROWINGS));
         prices.setFact(Prices.YARN, none ? 0 : entries.at(e, Entries.YARN));
         prices.setFact(Prices.IDLE, idleWeeks(f, week, t));
-        prices.reckonWorths(prices.listAt(l), week, town.isOwn(f));
+        prices.reckonLetters(prices.listAt(l));
+        prices.boundWorths(week, town.isOwn(f));
         return true;
     }
 
@@ -448,7 +449,8 @@ public final class FrameRents {
                 prices.setFact(Prices.NARROWINGS, k * order.narrowings);
                 prices.setFact(Prices.YARN, k * order.yarn);
                 prices.setFact(Prices.IDLE, k > 0 ? 0 : idleIfNothingNow(f));
-                prices.reckonWorths(list, now, town.isOwn(f));
+                prices.reckonLetters(list);
+                prices.boundWorths(now, town.isOwn(f));
                 order.setGain(k, (long) k * order.price - prices.netWages());
             }
             order.addFrame(f);
@@ -651,6 +653,7 @@ public final class FrameRents {
 
         Reader(Tape tape) {
             this.tape = tape;
+            // never null, though nothing is read yet
             this.sheet = new Sheet(0);
         }
 
@@ -946,9 +949,8 @@ public final class FrameRents {
             }
         }
 
-        /** What W, R, C and T of a list (null: none) are worth in a week, bounded. */
-        void reckonWorths(Sheet list, int week, boolean ownFrame) {
-            reckonLetters(list);
+        /** What W, R, C and T are worth in a week as bounded, the letters of its list being reckoned. */
+        void boundWorths(int week, boolean ownFrame) {
             for (int x = 0; x < worths.length; x++) worths[x] = letterAt(x);
             for (int a = 0; a < acts; a++) {
                 Sheet act = actAt(a);
@@ -1012,61 +1014,49 @@ public final class FrameRents {
             switch (step) {
                 case NUMBER:
                     push(arg);
-                    break;
+                    return;
                 case LETTER:
                     push(letterAt(arg));
-                    break;
+                    return;
                 case FACT:
                     push(factAt(arg));
-                    break;
-                case '<':
-                case '>':
-                case '=':
-                    choose(step);
-                    break;
+                    return;
                 default:
-                    join(step);
                     break;
             }
-        }
-
-        /** Both choices are reckoned already: to reckon one too many changes nothing. */
-        private void choose(char sign) {
-            long second = pop();
-            long first = pop();
+            // of a choice these two are its second and its first: to reckon one too many changes nothing
             long right = pop();
             long left = pop();
-            boolean isSo = left == right;
-            if (sign == '<') isSo = left < right;
-            if (sign == '>') isSo = left > right;
-            push(isSo ? first : second);
+            if (step != '<' && step != '>' && step != '=') {
+                push(joined(step, left, right));
+                return;
+            }
+            long compared = pop();
+            push(isSo(step, pop(), compared) ? left : right);
         }
 
-        private void join(char sign) {
-            long right = pop();
-            long left = pop();
+        private static boolean isSo(char sign, long left, long right) {
+            if (sign == '<') return left < right;
+            if (sign == '>') return left > right;
+            return left == right;
+        }
+
+        private static long joined(char sign, long left, long right) {
             switch (sign) {
                 case '+':
-                    push(left + right);
-                    break;
+                    return left + right;
                 case '-':
-                    push(left - right);
-                    break;
+                    return left - right;
                 case '*':
-                    push(left * right);
-                    break;
+                    return left * right;
                 case '/':
-                    push(right == 0 ? 0 : left / right);
-                    break;
+                    return right == 0 ? 0 : left / right;
                 case '%':
-                    push(right == 0 ? 0 : left % right);
-                    break;
+                    return right == 0 ? 0 : left % right;
                 case '_':
-                    push(Math.min(left, right));
-                    break;
+                    return Math.min(left, right);
                 default:
-                    push(Math.max(left, right));
-                    break;
+                    return Math.max(left, right);
             }
         }
     }
@@ -1385,9 +1375,10 @@ public final class FrameRents {
 
         private void fillBest() {
             int last = Math.max(0, Math.min(frames, MOST_FRAMES));
-            for (int left = 0; left <= MOST_DOZENS; left++) best[last][left] = left == 0 ? 0 : NO_GAIN;
+            int all = Math.max(0, Math.min(dozens, MOST_DOZENS));
+            for (int left = 0; left <= all; left++) best[last][left] = left == 0 ? 0 : NO_GAIN;
             for (int i = last - 1; i >= 0; i--) {
-                for (int left = 0; left <= MOST_DOZENS; left++) {
+                for (int left = 0; left <= all; left++) {
                     long most = NO_GAIN;
                     for (int k = 0; k <= MOST_EACH && k <= left; k++) most = Math.max(most, gainWith(i, left, k));
                     best[i][left] = most;
