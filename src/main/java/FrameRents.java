@@ -1089,7 +1089,6 @@ public final class FrameRents {
             owners = new int[FRAMES];
             holders = new int[FRAMES][WEEKS];
             listsInUse = new int[MASTERS][WEEKS];
-            for (int f = 0; f < FRAMES; f++) fill(holders[f], 0, NONE);
             for (int m = 0; m < MASTERS; m++) fill(listsInUse[m], 0, NONE);
         }
 

@@ -334,6 +334,11 @@ public final class PromisesTest {
         due("no act", x.count(5), 0);
         due("it is good still", x.act(519, 519, 3), 0);
         due("bounds itself by the list's own", Check.act(x, 0, 0, "W^W*2"), 1);
+        String more = "R^" + "1+".repeat(29) + "1";
+        Check.feed(x, Check.bytesOf(more));
+        due("61 bytes", more.length(), 61);
+        due("n 61, and so many are there", x.act(0, 0, 61), NONE);
+        due("the tape stays", x.count(10), 80);
     }
 
     // Promise 10
@@ -420,6 +425,9 @@ public final class PromisesTest {
         FrameRents x = new FrameRents();
         Check.list(x, "A=B*2+C;B=C+d;C=D^3;W=A+B+C+D;D=E;E=1");
         due("formulas of formulas", Check.worth(x, 0, 'W', 0, 4), 17 + 7 + 3 + 1);
+        FrameRents y = new FrameRents();
+        Check.list(y, "A=C+D+E;B=A;C=1;D=2;E=3;W=B");
+        due("a short one that needs a long one", Check.worth(y, 0, 'W'), 6);
         Check.list(x, "J=I+I+I+I+I+I+I;I=H+H+H+H+H+H+H;H=G+G+G+G+G+G+G;G=F+F+F+F+F+F+F;F=E+E+E+E+E+E+E;E=D+D+D+D+D+D+D;"
             + "D=C+C+C+C+C+C+C;C=B+B+B+B+B+B+B;B=A+A+A+A+A+A+A;A=d");
         due("formulas that branch ten deep", Check.worth(x, 1, 'J', 0, 1), 40353607);
@@ -765,6 +773,13 @@ public final class PromisesTest {
         due("idle since another week", x.spread(0, 0, 0, 0, 0, 0), 40000);
         due("the idle one is left idle", x.spread(0, 0, 1, 0, 0, 0), 30000);
         due("the other gets it", x.share(3), 1);
+        x.back(0);
+        x.hire(0, 0);
+        due("given back and hired again in a week", x.spread(0, 0, 0, 0, 0, 0), 40000);
+        x.back(0);
+        x.knitter(1);
+        x.hire(0, 2);
+        due("idle by another knitter", x.spread(0, 0, 0, 0, 0, 0), 20000);
         x = new FrameRents();
         x.master(NONE);
         x.knitter(1);
@@ -1031,6 +1046,11 @@ public final class PromisesTest {
         due("1", x.fund(1), 1);
         due("1000000", x.fund(1000000), 1000001);
         due("count", x.count(8), 1000001);
+        for (int i = 2; i < 1000; i++) x.fund(1000000);
+        due("nearly full", x.count(8), 999000001);
+        due("above the most", x.fund(1000000), NONE);
+        due("the most", x.fund(999999), 1000000000);
+        due("above it", x.fund(1), NONE);
     }
 
     // Promise 32
@@ -1088,6 +1108,9 @@ public final class PromisesTest {
         x.fund(25);
         due("the first", x.goes(), 30);
         due("left", x.count(8), 15);
+        x.fund(15);
+        due("just enough", x.goes(), 30);
+        due("none left", x.count(8), 0);
         FrameRents y = new FrameRents();
         y.knitter(9);
         y.knitter(1);
@@ -1100,7 +1123,8 @@ public final class PromisesTest {
         for (int i = 0; i < 500; i++) z.goes();
         due("500", z.count(0), 500);
         FrameRents last = new FrameRents();
-        for (int i = 0; i < 519; i++) last.goes();
+        for (int i = 0; i < 519; i++) due("a week goes by", last.goes(), 0);
+        due("the last week", last.count(0), 519);
         due("no week behind 519", last.goes(), NONE);
     }
 

@@ -3,6 +3,7 @@ import java.util.Random;
 /** Texts of lists and acts against the model: all short ones of a few signs, and random ones; seeded. */
 public final class TextsTest {
     private static FrameRents x = new FrameRents();
+    private static int texts = 0;
     private static int wrong = 0;
 
     public static void main(String[] args) {
@@ -15,6 +16,7 @@ public final class TextsTest {
         shortTexts("W=7", "-*_2", 6);
         randomTexts();
         acts();
+        System.out.println(texts + " answers compared with the model's");
         Check.due("texts that answered otherwise than the model", wrong, 0);
         Check.end();
     }
@@ -36,6 +38,7 @@ public final class TextsTest {
     }
 
     private static void tell(String what, long got, long want) {
+        texts++;
         if (got == want) return;
         wrong++;
         if (wrong <= 20) System.out.println(what + " answered " + got + ", the model " + want);
