@@ -433,7 +433,8 @@ public final class FrameRents {
         int m = town.masterOf(f);
         if (!reckonWeek(f, week, t, town.listIn(m, week))) return 0;
         long truck = prices.truck();
-        return prices.netWages() - truck + truck * 100 / (100 + town.overOf(m));
+        long dearness = 100 + Math.max(0, town.overOf(m));
+        return prices.netWages() - truck + truck * 100 / dearness;
     }
 
     private void fillGains() {
@@ -519,8 +520,9 @@ public final class FrameRents {
         private boolean noLess;
 
         Sheet(int mostSteps) {
-            steps = new char[mostSteps];
-            args = new int[mostSteps];
+            int room = Math.max(0, mostSteps);
+            steps = new char[room];
+            args = new int[room];
             letters = new int[FORMULAS];
             places = new int[FORMULAS];
             ends = new int[FORMULAS];
