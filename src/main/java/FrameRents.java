@@ -158,7 +158,10 @@ public final class FrameRents {
         if (!town.hasKnitter(k) || !isWeek(week) || !isWeek(t)) return 0;
         long all = 0;
         for (int f = 0; f < town.frames; f++) {
-            if (town.holderAt(f, week) == k) all += earnedOn(f, week, t);
+            int m = town.masterOf(f);
+            if (town.holderAt(f, week) != k || !reckonWeek(f, week, t, town.listIn(m, week))) continue;
+            long truck = prices.truck();
+            all += prices.netWages() - truck + truck * 100 / (100 + Math.max(0, town.overOf(m)));
         }
         if (!parish) return all;
         return Math.max(0, (long) parishScale * town.headsOf(k) - all);
@@ -427,14 +430,6 @@ public final class FrameRents {
         prices.reckonLetters(prices.listAt(l));
         prices.boundWorths(week, town.isOwn(f));
         return true;
-    }
-
-    private long earnedOn(int f, int week, int t) {
-        int m = town.masterOf(f);
-        if (!reckonWeek(f, week, t, town.listIn(m, week))) return 0;
-        long truck = prices.truck();
-        long dearness = 100 + Math.max(0, town.overOf(m));
-        return prices.netWages() - truck + truck * 100 / dearness;
     }
 
     private void fillGains() {
