@@ -8,6 +8,7 @@ import java.nio.file.Path;
 import java.util.ArrayList;
 import java.util.Arrays;
 import java.util.List;
+import java.util.Random;
 import java.util.TreeSet;
 import java.util.regex.Matcher;
 import java.util.regex.Pattern;
@@ -29,6 +30,7 @@ public final class FaceTest {
         classesInside();
         source(Files.readString(Path.of("src/main/java/FrameRents.java")));
         allocation();
+        for (int seed = 0; seed < 400; seed++) anyArguments(seed);
         Check.end();
     }
 
@@ -121,6 +123,41 @@ public final class FaceTest {
             is("sixty lines: " + name, i - begin <= 60);
             begin = -1;
         }
+    }
+
+    /** No call throws, whatever it is given, and the same calls give the same answers. */
+    private static void anyArguments(int seed) throws Exception {
+        Random random = new Random(seed);
+        FrameRents x = new FrameRents();
+        FrameRents y = new FrameRents();
+        List<Method> methods = new ArrayList<>();
+        for (Method m : FrameRents.class.getDeclaredMethods()) if (Modifier.isPublic(m.getModifiers())) methods.add(m);
+        methods.sort((a, b) -> a.getName().compareTo(b.getName()));
+        String calls = "calls of seed " + seed + " answer the same";
+        boolean same = true;
+        for (int i = 0; i < 512; i++) {
+            Method m = methods.get(random.nextInt(methods.size()));
+            Object[] args = new Object[m.getParameterCount()];
+            for (int a = 0; a < args.length; a++) {
+                args[a] = m.getParameterTypes()[a] == boolean.class ? (Object) random.nextBoolean() : (Object) any(random, m.getName().equals("feed"));
+            }
+            same &= m.invoke(x, args).equals(m.invoke(y, args));
+        }
+        is(calls, same);
+    }
+
+    private static final int[] FAR = {Integer.MIN_VALUE, Integer.MAX_VALUE, Integer.MIN_VALUE + 1, -2, -1000000000, 1 << 20, 519, 520, 1000000, 1000001};
+
+    private static int any(Random random, boolean isText) {
+        if (isText) {
+            int n = 0;
+            for (int i = 0; i < 4; i++) n = n << 8 | "WRCTAB=;d1(?<:)+*/i9^_".charAt(random.nextInt(22));
+            return random.nextInt(4) == 0 ? random.nextInt() : n;
+        }
+        int chance = random.nextInt(20);
+        if (chance == 0) return FAR[random.nextInt(FAR.length)];
+        if (chance < 3) return random.nextInt(300) - 20;
+        return random.nextInt(14) - 1;
     }
 
     private static long allocated() {

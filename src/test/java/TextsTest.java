@@ -3,6 +3,7 @@ import java.util.Random;
 /** Texts of lists and acts against the model: all short ones of a few signs, and random ones; seeded. */
 public final class TextsTest {
     private static FrameRents x = new FrameRents();
+    private static int calls = 0;
     private static int texts = 0;
     private static int wrong = 0;
 
@@ -44,13 +45,25 @@ public final class TextsTest {
         if (wrong <= 20) System.out.println(what + " answered " + got + ", the model " + want);
     }
 
-    private static void compareList(String text) {
+    /** A new object before an old one has been asked too often. */
+    private static void feed(String text) {
+        if (calls > 400) renew();
         Check.feed(x, Check.bytesOf(text));
+        calls += (text.length() + 19) / 20 + 1;
+    }
+
+    private static void renew() {
+        x = new FrameRents();
+        calls = 0;
+    }
+
+    private static void compareList(String text) {
+        feed(text);
         int got = x.list(text.length());
         int want = Model.faultOfList(text);
         if (got < 0 || want < 0) {
             tell("list of " + text, got, want);
-            if (got >= 0) x = new FrameRents();
+            if (got >= 0) renew();
             return;
         }
         Model model = new Model();
@@ -63,9 +76,10 @@ public final class TextsTest {
                 x.feed(facts[i], facts[i + 1], facts[i + 2], facts[i + 3], facts[i + 4]);
                 model.feed(facts[i], facts[i + 1], facts[i + 2], facts[i + 3], facts[i + 4]);
             }
+            calls += 3;
             tell("worth of " + (char) ('A' + letter) + " by " + text, x.worth(got, letter), model.worth(0, letter));
         }
-        if (got == 9) x = new FrameRents();
+        if (got == 9) renew();
     }
 
     private static void feedModel(Model model, String text) {
@@ -127,11 +141,11 @@ public final class TextsTest {
         for (int i = 0; i < 20000; i++) {
             String start = "" + "WRCTWRCTA".charAt(random.nextInt(9)) + "_^_^_^=".charAt(random.nextInt(7));
             String text = randomText(random, start, random.nextInt(5) == 0 ? 60 : 20, false);
-            Check.feed(x, Check.bytesOf(text));
+            feed(text);
             int got = x.act(0, 0, text.length());
             int want = Model.faultOfAct(text);
             tell("act of " + text, Math.min(got, 0), want);
-            if (got == 9) x = new FrameRents();
+            if (got == 9) renew();
         }
     }
 }
