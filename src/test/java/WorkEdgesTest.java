@@ -929,6 +929,11 @@ public final class WorkEdgesTest {
     private static void lookForOthers() {
         Towns.range("entry", 0, 0, NONE, WorkEdgesTest::withEntry, (x, n) -> x.look(n, 3));
         Towns.range("what", 0, 7, NONE, WorkEdgesTest::withEntry, (x, n) -> x.look(0, n));
+        FrameRents x = withEntry();
+        for (int e = 1; e < 303; e += e == 3 ? 295 : 1) {
+            due("look at entry " + e, x.look(e, 0), NONE);
+            due("entry " + e + " amiss", x.amiss(e), NONE);
+        }
     }
 
     /** count: "NONE for others". */
